@@ -13,7 +13,9 @@ public final class PhrasePoolAgainstModel {
     private static final int BAD_STATE = -1000003;
     private static final int FULL = -1000004;
     private static final int RUNS = 400;
-    private static final int CALLS = 512;
+    // No more is promised than 512 calls: a text that is begun at the last of these, and what is asked at the end
+    // of a run, come to it.
+    private static final int CALLS = 450;
 
     private static final class Phrase {
         int owner;
