@@ -397,6 +397,10 @@ public final class PhrasePool {
                 length++;
             }
         }
+
+        private int wordAt(int index) {
+            return index >= 0 && index < length ? words[index] : NONE;
+        }
     }
 
     /** Tells how alike sentences are; its table is kept, so that no call makes one. */
@@ -405,7 +409,7 @@ public final class PhrasePool {
 
         private int measure(Sentence one, Sentence other) {
             int longer = Math.max(one.length, other.length);
-            return longer == 0 ? 0 : FULL_SCORE * (longer - distance(one, other)) / longer;
+            return longer < 1 || longer > MAX_WORDS ? 0 : FULL_SCORE * (longer - distance(one, other)) / longer;
         }
 
         /** Fills the table with the distances of all beginnings of the one from all of the other. */
@@ -415,7 +419,7 @@ public final class PhrasePool {
                     if (i == 0 || j == 0) {
                         steps[i][j] = i + j;
                     } else {
-                        int change = one.words[i - 1] == other.words[j - 1] ? 0 : 1;
+                        int change = one.wordAt(i - 1) == other.wordAt(j - 1) ? 0 : 1;
                         int putOrTake = 1 + Math.min(steps[i - 1][j], steps[i][j - 1]);
                         steps[i][j] = Math.min(putOrTake, steps[i - 1][j - 1] + change);
                     }
@@ -435,23 +439,29 @@ public final class PhrasePool {
 
         /** Nothing is left to put together at the end. */
         private void start(int sentenceLength) {
-            end = sentenceLength;
+            end = Math.max(0, Math.min(sentenceLength, MAX_WORDS));
             open(end);
             costs[end] = 0;
         }
 
+        private boolean isPlace(int place) {
+            return place >= 0 && place <= end;
+        }
+
         /** No way is known from a place as yet. */
         private void open(int place) {
-            costs[place] = NONE;
-            lengths[place] = 0;
-            firsts[place] = NONE;
-            nexts[place] = end;
+            if (isPlace(place)) {
+                costs[place] = NONE;
+                lengths[place] = 0;
+                firsts[place] = NONE;
+                nexts[place] = end;
+            }
         }
 
         /** A later phrase must be better to be taken, as phrases are offered in the order of their numbers. */
         private void offer(int place, int phrase, int words, int itsFee) {
             int next = place + words;
-            if (next > end || costs[next] == NONE) {
+            if (!isPlace(place) || !isPlace(next) || costs[next] == NONE) {
                 return;
             }
             int cost = itsFee + costs[next];
@@ -470,7 +480,7 @@ public final class PhrasePool {
         }
 
         private int pieceAt(int index) {
-            if (index >= lengths[0]) {
+            if (index < 0 || index >= lengths[0]) {
                 return NONE;
             }
             int place = 0;
@@ -561,7 +571,7 @@ public final class PhrasePool {
     /**
      * All that undo() restores and the rules that change it. It stands in one row of numbers, so that to
      * keep a state is one copy, and none of it can be forgotten. The callers see to it that a member, a
-     * phrase or a note that is named exists.
+     * phrase or a note that is named exists; that no place beyond the row is used is seen to here.
      */
     private static final class State {
         // The columns of a member, a phrase and a note are numbered as the document numbers the properties.
@@ -635,20 +645,34 @@ public final class PhrasePool {
             return FIRST_NOTE + note * NOTE_COLUMNS + column;
         }
 
+        private int at(int cell) {
+            return cell >= 0 && cell < CELLS ? cells[cell] : 0;
+        }
+
+        private void put(int cell, int value) {
+            if (cell >= 0 && cell < CELLS) {
+                cells[cell] = value;
+            }
+        }
+
+        private void increase(int cell, int amount) {
+            put(cell, at(cell) + amount);
+        }
+
         private int members() {
-            return cells[MEMBERS];
+            return at(MEMBERS);
         }
 
         private int phrases() {
-            return cells[PHRASES];
+            return at(PHRASES);
         }
 
         private int notes() {
-            return cells[NOTES];
+            return at(NOTES);
         }
 
         private int tick() {
-            return cells[TICK];
+            return at(TICK);
         }
 
         private boolean hasMember(int member) {
@@ -664,41 +688,41 @@ public final class PhrasePool {
         }
 
         private int settingOf(int setting) {
-            return cells[FIRST_SETTING + setting];
+            return at(FIRST_SETTING + setting);
         }
 
         private void changeSetting(int setting, int value) {
-            cells[FIRST_SETTING + setting] = value;
+            put(FIRST_SETTING + setting, value);
         }
 
         private int moveTick(int ticks) {
-            cells[TICK] += ticks;
-            return cells[TICK];
+            increase(TICK, ticks);
+            return at(TICK);
         }
 
         // ---- members
 
         private int startMember() {
-            int member = cells[MEMBERS];
-            cells[MEMBERS]++;
-            cells[memberCell(member, PRICE)] = NEW_PRICE;
-            cells[memberCell(member, ACCOUNT)] = 0;
+            int member = at(MEMBERS);
+            increase(MEMBERS, 1);
+            put(memberCell(member, PRICE), NEW_PRICE);
+            put(memberCell(member, ACCOUNT), 0);
             return member;
         }
 
         private int priceOf(int member) {
-            return cells[memberCell(member, PRICE)];
+            return at(memberCell(member, PRICE));
         }
 
         private void changePrice(int member, int price) {
-            cells[memberCell(member, PRICE)] = price;
+            put(memberCell(member, PRICE), price);
         }
 
         private int memberProperty(int member, int what) {
             switch (what) {
                 case PRICE:
                 case ACCOUNT:
-                    return cells[memberCell(member, what)];
+                    return at(memberCell(member, what));
                 case OWNED:
                     return countOwned(member);
                 case USES_NOTED:
@@ -755,7 +779,7 @@ public final class PhrasePool {
                 case 5:
                     return tick();
                 case 6:
-                    return cells[POOL];
+                    return at(POOL);
                 case 7:
                     return countConflicts();
                 default:
@@ -794,50 +818,50 @@ public final class PhrasePool {
         // ---- phrases
 
         private int startPhrase(int owner, int target, int parent, Sentence sentence) {
-            int phrase = cells[PHRASES];
-            cells[PHRASES]++;
-            cells[phraseCell(phrase, OWNER)] = owner;
-            cells[phraseCell(phrase, LENGTH)] = sentence.length;
-            cells[phraseCell(phrase, TARGET)] = target;
-            cells[phraseCell(phrase, PARENT)] = parent;
-            cells[phraseCell(phrase, LIVE)] = 1;
-            cells[phraseCell(phrase, USES)] = 0;
+            int phrase = at(PHRASES);
+            increase(PHRASES, 1);
+            put(phraseCell(phrase, OWNER), owner);
+            put(phraseCell(phrase, LENGTH), sentence.length);
+            put(phraseCell(phrase, TARGET), target);
+            put(phraseCell(phrase, PARENT), parent);
+            put(phraseCell(phrase, LIVE), 1);
+            put(phraseCell(phrase, USES), 0);
             for (int index = 0; index < sentence.length; index++) {
-                cells[phraseCell(phrase, WORDS + index)] = sentence.words[index];
+                put(phraseCell(phrase, WORDS + index), sentence.wordAt(index));
             }
             return phrase;
         }
 
         private int phraseProperty(int phrase, int what) {
-            return what == CONFLICTS ? conflictsOf(phrase) : cells[phraseCell(phrase, what)];
+            return what == CONFLICTS ? conflictsOf(phrase) : at(phraseCell(phrase, what));
         }
 
         private int ownerOf(int phrase) {
-            return cells[phraseCell(phrase, OWNER)];
+            return at(phraseCell(phrase, OWNER));
         }
 
         private int lengthOf(int phrase) {
-            return cells[phraseCell(phrase, LENGTH)];
+            return at(phraseCell(phrase, LENGTH));
         }
 
         private int targetOf(int phrase) {
-            return cells[phraseCell(phrase, TARGET)];
+            return at(phraseCell(phrase, TARGET));
         }
 
         private int parentOf(int phrase) {
-            return cells[phraseCell(phrase, PARENT)];
+            return at(phraseCell(phrase, PARENT));
         }
 
         private boolean isLive(int phrase) {
-            return cells[phraseCell(phrase, LIVE)] == 1;
+            return at(phraseCell(phrase, LIVE)) == 1;
         }
 
         private int usesOf(int phrase) {
-            return cells[phraseCell(phrase, USES)];
+            return at(phraseCell(phrase, USES));
         }
 
         private int wordOf(int phrase, int index) {
-            return cells[phraseCell(phrase, WORDS + index)];
+            return at(phraseCell(phrase, WORDS + index));
         }
 
         private void readInto(Sentence sentence, int phrase) {
@@ -873,13 +897,13 @@ public final class PhrasePool {
 
         /** Tells whether the words of a phrase stand in a sentence from a place on. */
         private boolean standsAt(int phrase, Sentence sentence, int place) {
-            int length = cells[phraseCell(phrase, LENGTH)];
+            int length = at(phraseCell(phrase, LENGTH));
             int start = phraseCell(phrase, WORDS);
             if (place + length > sentence.length) {
                 return false;
             }
             for (int index = 0; index < length; index++) {
-                if (cells[start + index] != sentence.words[place + index]) {
+                if (at(start + index) != sentence.wordAt(place + index)) {
                     return false;
                 }
             }
@@ -919,43 +943,43 @@ public final class PhrasePool {
         }
 
         private int noteProperty(int note, int what) {
-            return cells[noteCell(note, what)];
+            return at(noteCell(note, what));
         }
 
         private boolean isPaidBack(int note) {
-            return cells[noteCell(note, PAID_BACK)] == 1;
+            return at(noteCell(note, PAID_BACK)) == 1;
         }
 
         /** Notes the use of a phrase by a member, who pays the fee for it. */
         private int startNote(int member, int phrase, int itsScore) {
-            int note = cells[NOTES];
-            cells[NOTES]++;
-            cells[noteCell(note, USER)] = member;
-            cells[noteCell(note, USED)] = phrase;
-            cells[noteCell(note, SCORE)] = itsScore;
-            cells[noteCell(note, FEE)] = feeFor(member, phrase, itsScore);
-            cells[noteCell(note, NOTE_TICK)] = tick();
-            cells[noteCell(note, PAID_BACK)] = 0;
+            int note = at(NOTES);
+            increase(NOTES, 1);
+            put(noteCell(note, USER), member);
+            put(noteCell(note, USED), phrase);
+            put(noteCell(note, SCORE), itsScore);
+            put(noteCell(note, FEE), feeFor(member, phrase, itsScore));
+            put(noteCell(note, NOTE_TICK), tick());
+            put(noteCell(note, PAID_BACK), 0);
             splitFee(note);
             moveMoney(note, 1);
-            cells[phraseCell(phrase, USES)]++;
+            increase(phraseCell(phrase, USES), 1);
             return note;
         }
 
         /** Tells in a note what of its fee the pool and each member get and do not pass on. */
         private void splitFee(int note) {
             for (int member = 0; member < MAX_MEMBERS; member++) {
-                cells[noteCell(note, MEMBERS_GOT + member)] = 0;
+                put(noteCell(note, MEMBERS_GOT + member), 0);
             }
             int ofPool = noteProperty(note, FEE) * settingOf(SHARE) / HUNDREDTHS;
-            cells[noteCell(note, POOL_GOT)] = ofPool;
+            put(noteCell(note, POOL_GOT), ofPool);
             int amount = noteProperty(note, FEE) - ofPool;
             int phrase = noteProperty(note, USED);
             // Each phrase is younger than its parent, so that no line of them is longer than all phrases.
             for (int step = 0; step < MAX_PHRASES && phrase != NONE; step++) {
                 int parent = parentOf(phrase);
                 int passedOn = parent == NONE ? 0 : amount * settingOf(ROYALTY) / HUNDREDTHS;
-                cells[noteCell(note, MEMBERS_GOT + ownerOf(phrase))] += amount - passedOn;
+                increase(noteCell(note, MEMBERS_GOT + ownerOf(phrase)), amount - passedOn);
                 amount = passedOn;
                 phrase = parent;
             }
@@ -963,10 +987,10 @@ public final class PhrasePool {
 
         /** Moves the fee of a note to those who get it (direction 1), or back (direction -1). */
         private void moveMoney(int note, int direction) {
-            cells[memberCell(noteProperty(note, USER), ACCOUNT)] -= direction * noteProperty(note, FEE);
-            cells[POOL] += direction * noteProperty(note, POOL_GOT);
+            increase(memberCell(noteProperty(note, USER), ACCOUNT), -direction * noteProperty(note, FEE));
+            increase(POOL, direction * noteProperty(note, POOL_GOT));
             for (int member = 0; member < members(); member++) {
-                cells[memberCell(member, ACCOUNT)] += direction * noteProperty(note, MEMBERS_GOT + member);
+                increase(memberCell(member, ACCOUNT), direction * noteProperty(note, MEMBERS_GOT + member));
             }
         }
 
@@ -974,30 +998,30 @@ public final class PhrasePool {
 
         /** Marks a live phrase and all that would end with it. */
         private void markEndings(int phrase) {
-            for (int i = 0; i < MAX_PHRASES; i++) {
-                marked[i] = i == phrase;
-            }
             // Each phrase is younger than its parent, so that one round in their order meets all.
-            for (int i = 0; i < phrases(); i++) {
-                if (hasMarkedParent(i) && likenessOf(i, parentOf(i)) >= settingOf(CLOSENESS)) {
-                    marked[i] = true;
-                }
+            for (int i = 0; i < MAX_PHRASES; i++) {
+                marked[i] = i == phrase
+                        || i < phrases() && hasMarkedParent(i) && likenessOf(i, parentOf(i)) >= settingOf(CLOSENESS);
             }
         }
 
+        private boolean isMarked(int phrase) {
+            return phrase >= 0 && phrase < MAX_PHRASES && marked[phrase];
+        }
+
         private boolean hasMarkedParent(int phrase) {
-            return isLive(phrase) && parentOf(phrase) != NONE && marked[parentOf(phrase)];
+            return isLive(phrase) && isMarked(parentOf(phrase));
         }
 
         /** Ends what is marked, lets loose what was derived from it, and returns how many phrases end. */
         private int endMarked() {
             int ended = 0;
             for (int phrase = 0; phrase < phrases(); phrase++) {
-                if (marked[phrase]) {
-                    cells[phraseCell(phrase, LIVE)] = 0;
+                if (isMarked(phrase)) {
+                    put(phraseCell(phrase, LIVE), 0);
                     ended++;
                 } else if (hasMarkedParent(phrase)) {
-                    cells[phraseCell(phrase, PARENT)] = NONE;
+                    put(phraseCell(phrase, PARENT), NONE);
                 }
             }
             return ended;
@@ -1005,7 +1029,7 @@ public final class PhrasePool {
 
         /** Tells whether a note is paid, of a phrase that is marked, and not too old. */
         private boolean isOwed(int note) {
-            return !isPaidBack(note) && marked[noteProperty(note, USED)]
+            return !isPaidBack(note) && isMarked(noteProperty(note, USED))
                     && noteProperty(note, NOTE_TICK) >= tick() - settingOf(GRACE);
         }
 
@@ -1023,7 +1047,7 @@ public final class PhrasePool {
             for (int note = 0; note < notes(); note++) {
                 if (isOwed(note)) {
                     moveMoney(note, -1);
-                    cells[noteCell(note, PAID_BACK)] = 1;
+                    put(noteCell(note, PAID_BACK), 1);
                 }
             }
         }

@@ -153,6 +153,81 @@ public final class PhrasePoolDescriptionEdges extends Checks {
         due("no twenty-first", x.phrase(20, 2), BAD_INDEX);
     }
 
+    // Twenty phrases of member 1, the last one as given, and a note of member 0 at tick 1, all numbers of which are
+    // those that a live phrase "a" of member 0 could have: where notes are kept behind phrases, it could be one.
+    private static PhrasePool noteBehindTwenty(String last, int target, int before) {
+        PhrasePool x = pool(2);
+        x.setPrice(1, 0);
+        for (int phrase = 0; phrase < 18; phrase++) {
+            add(x, 1, phrase == 0 ? "zz" : "yyyyyyyyyy", 1, NONE);
+        }
+        add(x, 1, last, before, NONE);
+        add(x, 1, last, target, NONE);
+        x.pass(1);
+        write(x, "yyyyyyyyyy");
+        x.use(0);
+        x.setPrice(1, 40);
+        return x;
+    }
+
+    @Says(at = "Members, phrases", that = "There are at most 20 phrases")
+    static void b07NoneBehindTheLast() {
+        PhrasePool x = noteBehindTwenty("b", 1, 1);
+        due("live ones", x.count(2), 20);
+        due("live ones of the one", x.member(0, 2), 0);
+        write(x, "a");
+        due("a match", x.match(), NONE);
+        due("a target", x.agreed(), NONE);
+        due("a way", x.cheapest(0), NONE);
+        due("what ends with the first", x.retract(0), 1);
+        due("the fee of the note", x.note(0, 3), 0);
+        PhrasePool y = noteBehindTwenty("a", 500, 500);
+        due("pairs in conflict", y.count(7), 0);
+        due("conflicts of the last", y.phrase(19, 6), 0);
+        write(y, "a");
+        due("the only target", y.agreed(), 500);
+        due("the only way", y.cheapest(0), 40);
+        PhrasePool z = noteBehindTwenty("a", 50, 100);
+        write(z, "a");
+        due("two targets of one member", z.agreed(), 50);
+    }
+
+    @Says(at = "Members, phrases", that = "numbered from 0")
+    static void b07NoneBeforeTheFirst() {
+        // In the same way: settings and prices that could be a live phrase "a" of member 0 with target 7.
+        PhrasePool x = pool(2);
+        x.set(1, 0);
+        x.set(2, 1);
+        x.set(3, 7);
+        x.setPrice(0, 1);
+        x.setPrice(1, 0);
+        write(x, "a");
+        due("live ones of the one", x.member(0, 2), 0);
+        due("a way", x.cheapest(0), NONE);
+        due("a target", x.agreed(), NONE);
+        x.addPhrase(1, 8, NONE);
+        x.addPhrase(1, 8, NONE);
+        due("pairs in conflict", x.count(7), 0);
+        due("conflicts of the first", x.phrase(0, 6), 0);
+        due("the only target", x.agreed(), 8);
+        x.addPhrase(1, 7, NONE);
+        x.addPhrase(1, 6, NONE);
+        due("the lowest of three that one member gives", x.agreed(), 6);
+    }
+
+    @Says(at = "Matches, fees", that = "There are at most 24 notes, numbered from 0")
+    static void d11NoneBeforeTheFirst() {
+        // In the same way: a last phrase that could be a note of member 0, of the use of phrase 1 for 2.
+        PhrasePool x = poolWith(1, "y", "z");
+        for (int phrase = 2; phrase < 20; phrase++) {
+            add(x, 0, "caa", 1, 0);
+        }
+        due("what would be paid back", x.wouldPayBack(1), 0);
+        due("what ends", x.retract(1), 1);
+        due("the account", x.member(0, 1), 0);
+        due("the words of the last phrase", x.word(19, 2), 0);
+    }
+
     @Says(at = "Members, phrases", that = "numbered from 0 in the order in which they were added, which keep their numbers")
     static void b08Numbers() {
         PhrasePool x = poolWith(1, "a", "b", "c");
@@ -628,6 +703,29 @@ public final class PhrasePoolDescriptionEdges extends Checks {
         x.use(2);
         due("nothing is passed on any more", x.note(0, 8), 36);
         due("nor got", x.note(0, 7), 0);
+    }
+
+    @Says(at = "Retracting", that = "Each live phrase whose parent has ended .. has no parent any more")
+    static void e03NoOtherPhraseLosesIt() {
+        PhrasePool x = poolWith(1, "abcde");
+        add(x, 0, "vwxyz", 1, 0);
+        add(x, 0, "abcde", 1, 0);
+        add(x, 0, "qqqqq", 1, 0);
+        due("one that is derived ends first", x.retract(1), 1);
+        due("its parent lives on", x.phrase(1, 3), 0);
+        due("then its parent ends, with one that is close", x.retract(0), 2);
+        due("one that had ended before, not close", x.phrase(1, 3), 0);
+        due("one that ends with it", x.phrase(2, 3), 0);
+        due("one that lives on, not close", x.phrase(3, 3), NONE);
+        due("then that one ends", x.retract(3), 1);
+        due("what it has lost stays lost", x.phrase(3, 3), NONE);
+        due("one that had ended before still", x.phrase(1, 3), 0);
+        long h = hash(61, 1, 4, 0, 0, 0, 0, 0, 0, 70, 10, 30, 10, 80);
+        h = hash(h, 40, 0, 0, 0, 0);
+        h = hash(h, 0, 5, 1, NONE, 0, 0, 0, 0, 1, 2, 3, 4);
+        h = hash(h, 0, 5, 1, 0, 0, 0, 0, 21, 22, 23, 24, 25);
+        h = hash(h, 0, 5, 1, 0, 0, 0, 0, 0, 1, 2, 3, 4);
+        due("digest()", x.digest(), hash(h, 0, 5, 1, NONE, 0, 0, 0, 16, 16, 16, 16, 16));
     }
 
     @Says(at = "Retracting", that = "This goes on until no live phrase has a parent that has ended.")

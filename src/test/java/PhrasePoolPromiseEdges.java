@@ -619,6 +619,26 @@ public final class PhrasePoolPromiseEdges extends Checks {
         due("all six", x.agreed(), 999);
     }
 
+    @Says(at = "Promise 11", that = "the most different members (of whom each can give several)")
+    static void p11EachCanGiveSeveral() {
+        PhrasePool x = pool(3);
+        add(x, 0, "ab", 8, NONE);
+        add(x, 0, "ab", 7, NONE);
+        add(x, 0, "ab", 9, NONE);
+        due("one member, three targets", x.agreed(), 7);
+        add(x, 1, "ab", 9, NONE);
+        due("the last target of the one, with another member", x.agreed(), 9);
+        add(x, 1, "ab", 8, NONE);
+        due("two of them, with the other member", x.agreed(), 8);
+        add(x, 2, "ab", 7, NONE);
+        add(x, 1, "ab", 7, NONE);
+        due("all three, one of them with a third member", x.agreed(), 7);
+        x.retract(1);
+        due("without the first one's phrase for it, all with two", x.agreed(), 7);
+        x.retract(5);
+        due("then it has one", x.agreed(), 8);
+    }
+
     @Says(at = "Promise 11", that = "by live phrases of theirs with just this sentence")
     static void p11JustThis() {
         PhrasePool x = pool(3);

@@ -24,8 +24,13 @@ public final class PhrasePoolRules {
         "int type(int)", "int clearText()", "int textFault()", "int undo()", "long digest()"};
     private static final String[] CONSTANTS = {"NONE", "BAD_INDEX", "BAD_VALUE", "BAD_STATE", "FULL"};
     private static final String[] UNWANTED = {
-        "\\b(throw|throws|try|catch|finally|synchronized|assert|import|package|native|volatile|transient)\\b",
-        "->", "::", "\\b(System\\.(?!arraycopy)|Thread|Random|Math\\.\\w+Exact)\\b", "@", "\\bvar\\b"};
+        "\\b(throw|throws|try|catch|finally|synchronized|assert|package)\\b",
+        "\\bimport\\s+(?!java\\.util\\.(ArrayList|List|Arrays|Iterator)\\s*;)",
+        "->", "::", "\\b(System\\.(?!arraycopy)|Thread|Random|Math\\.\\w+Exact)\\b", "@(?!Override\\b)"};
+    // A switch may be written with arrows; every other arrow is that of a lambda.
+    private static final String ARROW_OF_CASE = "\\b(case\\b[^;{}]*?|default\\s*)->";
+    // What a call answers can't have been looked at before it is used as an index, or as a length.
+    private static final String INDEX_BY_CALL = "\\[[^\\[\\]]*\\w\\(";
 
     private static int wrong = 0;
 
@@ -80,7 +85,9 @@ public final class PhrasePoolRules {
     private static List<Class<?>> allClasses() {
         List<Class<?>> all = new ArrayList<>();
         all.add(PhrasePool.class);
-        all.addAll(Arrays.asList(PhrasePool.class.getDeclaredClasses()));
+        for (int i = 0; i < all.size(); i++) {
+            all.addAll(Arrays.asList(all.get(i).getDeclaredClasses()));
+        }
         return all;
     }
 
@@ -88,8 +95,8 @@ public final class PhrasePoolRules {
         demand(allClasses().size() <= 12, "some twelve classes");
         for (Class<?> c : allClasses()) {
             if (c != PhrasePool.class) {
-                demand(Modifier.isStatic(c.getModifiers()) && !Modifier.isPublic(c.getModifiers()), "static, not public: " + c);
-                demand(c.getDeclaredClasses().length == 0, "no class inside " + c);
+                demand(Modifier.isStatic(c.getModifiers()), "static: " + c);
+                demand(!Modifier.isPublic(c.getModifiers()) && !Modifier.isProtected(c.getModifiers()), "not for others: " + c);
             }
             int fields = 0;
             for (Field f : c.getDeclaredFields()) {
@@ -107,19 +114,22 @@ public final class PhrasePoolRules {
         }
         for (Class<?> c : allClasses()) {
             for (Method m : c.getDeclaredMethods()) {
-                boolean own = c == PhrasePool.class && Modifier.isPublic(m.getModifiers());
-                demand(own || !ofFace.contains(m.getName()), "no other method bears the name of a public one: " + m);
+                boolean hidden = Modifier.isPrivate(m.getModifiers());
+                demand(!hidden || !ofFace.contains(m.getName()), "no private method bears the name of a public one: " + m);
                 demand(m.getParameterCount() <= 7, "at most seven parameters: " + m);
-                demand(own || !Arrays.asList("equals", "hashCode", "toString").contains(m.getName()), "none of its own: " + m);
             }
         }
     }
 
     private static void source() throws IOException {
         String code = Files.readString(SOURCE).replaceAll("(?s)/\\*.*?\\*/", "").replaceAll("//[^\n]*", "");
+        code = code.replaceAll(ARROW_OF_CASE, " ");
         for (String unwanted : UNWANTED) {
             demand(!Pattern.compile(unwanted).matcher(code).find(), "the source has " + unwanted);
         }
+        demand(!Pattern.compile("\\b(equals|hashCode|toString)\\s*\\([^()]*\\)\\s*\\{").matcher(code).find(),
+            "no equals, hashCode or toString of its own");
+        demand(!Pattern.compile(INDEX_BY_CALL).matcher(code).find(), "each index is looked at before it is used");
         demand(code.chars().allMatch(sign -> sign < 128), "plain signs alone");
     }
 }
